@@ -46,6 +46,7 @@ public final class PromisesTest {
         promise17BadBeforeFull();
         termsRefusedCallsChangeNothing();
         termsDeadForEver();
+        termsLateRecordsAreApart();
         limitsCallsPast512End();
         Answers.end();
     }
@@ -567,6 +568,23 @@ public final class PromisesTest {
             due("sweep() before call " + calls, heap.sweep(), 5);
             calls += 9;
         }
+    }
+
+    private static void termsLateRecordsAreApart() {
+        KeyHeap heap = new KeyHeap();
+        for (int i = 0; i < 100; i++) {
+            heap.make(i & 1, i);
+            heap.dispose(i & 1);
+        }
+        heap.make(2, 7);
+        heap.make(3, 7);
+        due("same(2, 3) of late records", heap.same(2, 3), false);
+        heap.setNumber(2, 8);
+        due("number(3) after setNumber(2, 8)", heap.number(3), 7);
+        heap.dispose(2);
+        due("holds(3) after dispose(2)", heap.holds(3), LIVE);
+        due("number(3) after dispose(2)", heap.number(3), 7);
+        due("holds(2) after dispose(2)", heap.holds(2), DEAD);
     }
 
     /** What they answer is free, but the language's rule 7 lets no call throw, in any state. */
