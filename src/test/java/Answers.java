@@ -11,7 +11,12 @@ final class Answers {
     static void sentence(String words, Runnable test) {
         int before = compared;
         sentence = "[" + words + "] ";
-        test.run();
+        try {
+            test.run();
+        } catch (RuntimeException thrown) {
+            wrong++;
+            System.out.println(sentence + "a call has thrown " + thrown);
+        }
         if (compared == before) {
             wrong++;
             System.out.println(sentence + "compared nothing");

@@ -395,6 +395,11 @@ public final class BoundariesTest {
         KeyHeap lost = Situation.FULL_AND_LOST.heap();
         due("reached() of six that are lost", lost.reached(), 0);
         due("live() of six that are lost", lost.live(), 6);
+        for (int v = 0; v < 8; v++) {
+            KeyHeap one = new KeyHeap();
+            one.make(v, 1);
+            due("reached() from variable " + v + " alone", one.reached(), 1);
+        }
     }
 
     /** The record behind a dead one lives on but is not come to, even when others take the place. */

@@ -8,7 +8,7 @@ final class Situation {
     static final Situation NEW = new Situation("new", "NNNNNNNN", 0, KeyHeap::new);
     static final Situation MIXED = new Situation("mixed", "NLLDLDNN", 3, Situation::mixed);
     static final Situation ALL_DEAD = new Situation("all dead", "DDDDDDDD", 0, Situation::allDead);
-    static final Situation FULL = new Situation("full", "LLLLLNDN", 6, Situation::full);
+    static final Situation FULL = new Situation("full", "LLLLLNDL", 6, Situation::full);
     static final Situation FULL_AND_LOST = new Situation("full and lost", "NNNNNNNN", 6, Situation::fullAndLost);
     static final List<Situation> ALL = List.of(NEW, MIXED, ALL_DEAD, FULL, FULL_AND_LOST);
 
@@ -143,6 +143,7 @@ final class Situation {
         heap.setLink(3, 1, 6);
         heap.setLink(4, 1, 5);
         heap.setNil(5);
+        heap.copy(7, 1);
         return heap;
     }
 
