@@ -137,7 +137,8 @@ public final class KeyHeap {
         if (slot == NO_SLOT) {
             return BAD;
         }
-        return kindOf(links[linkPlace(slot, k)]);
+        int place = linkPlace(slot, k);
+        return kindOf(links[place]);
     }
 
     public boolean same(int v, int w) {
