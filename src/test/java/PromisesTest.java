@@ -42,6 +42,7 @@ public final class PromisesTest {
         promise15SweepThrowsAwayARing();
         promise16Total();
         promise17BadBeforeFull();
+        exampleOfTheReadme();
         Answers.end();
     }
 
@@ -510,5 +511,25 @@ public final class PromisesTest {
             due("17: make(" + v + ", 1) when full", heap.make(v, 1), BAD);
         }
         due("17: make(7, 1) when full", heap.make(7, 1), FULL);
+    }
+
+    private static void exampleOfTheReadme() {
+        KeyHeap heap = new KeyHeap();
+        due("README: make(0, 10)", heap.make(0, 10), OK);
+        due("README: make(1, 20)", heap.make(1, 20), OK);
+        due("README: setLink(0, 1, 1)", heap.setLink(0, 1, 1), OK);
+        due("README: setNil(1)", heap.setNil(1), OK);
+        due("README: follow(2, 0, 1)", heap.follow(2, 0, 1), OK);
+        due("README: number(2)", heap.number(2), 20);
+        due("README: dispose(2)", heap.dispose(2), OK);
+        due("README: holds(2)", heap.holds(2), DEAD);
+        due("README: linkHolds(0, 1)", heap.linkHolds(0, 1), DEAD);
+        due("README: setNumber(2, 5)", heap.setNumber(2, 5), DANGLING);
+        due("README: setNumber(3, 5)", heap.setNumber(3, 5), NIL_FAULT);
+        due("README: setNil(0)", heap.setNil(0), OK);
+        due("README: live()", heap.live(), 1);
+        due("README: reached()", heap.reached(), 0);
+        due("README: sweep()", heap.sweep(), 1);
+        due("README: live() at the end", heap.live(), 0);
     }
 }
